@@ -399,7 +399,8 @@ public final class StoreQueues {
 
     private int insert(int[] set, int count, int number) {
         int at = firstNotLess(set, count, number);
-        if (at < count && set[at] == number || count >= MOST_ORDERS) {
+        boolean there = at < count && set[at] == number;
+        if (there || count >= MOST_ORDERS) {
             return count;
         }
         for (int i = count; i > at; i--) {

@@ -198,9 +198,46 @@ public final class ModelTest {
         }
     }
 
+    /** An object that holds the model's program; it is made anew before it has had 512 calls. */
+    private static final class Subject {
+        final Model model;
+        private StoreQueues object;
+        private int calls;
+
+        Subject(Model model) {
+            this.model = model;
+            build();
+        }
+
+        private void build() {
+            object = new StoreQueues();
+            for (int t = 3; t >= 0; t--) {
+                appendThread(t);
+            }
+            calls = model.size();
+        }
+
+        private void appendThread(int t) {
+            int count = 0;
+            for (int[] instruction : model.threads.get(t)) {
+                count++;
+                due("appended", give(object, t, instruction), count);
+            }
+        }
+
+        StoreQueues ask() {
+            if (calls == 512) {
+                build();
+            }
+            calls++;
+            return object;
+        }
+    }
+
     public static void main(String[] args) {
         checkAllOfUpToTwo();
         checkSequence();
+        checkSecondProgram();
         checkLongUse();
         System.out.println(wrong == 0 ? "the class agrees with the model" : wrong + " answers differ from the model");
         if (wrong != 0) {
@@ -234,39 +271,67 @@ public final class ModelTest {
         if (!full) {
             model.threads.get(t).add(what);
         }
-        int want = full ? -2 : model.threads.get(t).size();
+        due("append", give(q, t, what), full ? -2 : model.threads.get(t).size());
+    }
+
+    private static int give(StoreQueues q, int t, int[] what) {
         if (what[0] == STORE) {
-            due("store", q.store(t, what[1], what[2]), want);
-        } else if (what[0] == LOAD) {
-            due("load", q.load(t, what[1]), want);
-        } else {
-            due("fence", q.fence(t), want);
+            return q.store(t, what[1], what[2]);
         }
+        return what[0] == LOAD ? q.load(t, what[1]) : q.fence(t);
     }
 
     private static void checkAllOfUpToTwo() {
         for (int first = 0; first < 52; first++) {
             for (int second = 0; second < 52; second++) {
-                StoreQueues q = new StoreQueues();
                 Model model = new Model();
-                append(q, model, first / 13, instruction(first % 13));
-                append(q, model, second / 13, instruction(second % 13));
-                checkAll(q, model);
+                model.threads.get(first / 13).add(instruction(first % 13));
+                model.threads.get(second / 13).add(instruction(second % 13));
+                checkAll(new Subject(model));
             }
         }
     }
 
     private static void checkSequence() {
         for (int program = 0; program < 3000; program++) {
-            StoreQueues q = new StoreQueues();
-            Model model = new Model();
-            int threads = 1 + random(4);
-            int variables = 1 + random(3);
-            int size = 3 + random(4);
-            for (int i = 0; i < size; i++) {
-                append(q, model, random(threads), someInstruction(variables));
+            checkAll(new Subject(someProgram()));
+        }
+    }
+
+    private static Model someProgram() {
+        Model model = new Model();
+        int threads = 1 + random(4);
+        int variables = 1 + random(3);
+        int size = 3 + random(4);
+        for (int i = 0; i < size; i++) {
+            model.threads.get(random(threads)).add(someInstruction(variables));
+        }
+        return model;
+    }
+
+    /** Nothing of an earlier program may be left in the answers about a later one. */
+    private static void checkSecondProgram() {
+        for (int round = 0; round < 1000; round++) {
+            Subject subject = new Subject(someProgram());
+            TreeSet<Integer> before = subject.model.outcomes(false);
+            due("outcomes before", subject.ask().outcomes(), before.size());
+            subject.ask().clear();
+            Model next = someProgram();
+            subject.model.threads.clear();
+            subject.model.threads.addAll(next.threads);
+            for (int t = 0; t < 4; t++) {
+                for (int[] instruction : next.threads.get(t)) {
+                    give(subject.ask(), t, instruction);
+                }
             }
-            checkAll(q, model);
+            TreeSet<Integer> late = next.outcomes(false);
+            TreeSet<Integer> strict = next.outcomes(true);
+            due("outcome behind the last", subject.ask().outcome(late.size()), -4);
+            due("fencesNeeded", subject.ask().fencesNeeded(), next.fencesNeeded());
+            due("surprise", subject.ask().surprise(), surprise(next));
+            for (int outcome : before) {
+                checkOutcome(subject, outcome, late, strict);
+            }
         }
     }
 
@@ -329,37 +394,46 @@ public final class ModelTest {
         return late.isEmpty() ? -4 : late.first();
     }
 
-    private static void checkAll(StoreQueues q, Model model) {
+    private static void checkAll(Subject subject) {
+        Model model = subject.model;
         TreeSet<Integer> late = model.outcomes(false);
         TreeSet<Integer> strict = model.outcomes(true);
-        due("size", q.size(), model.size());
-        due("outcomes", q.outcomes(), late.size());
-        due("strictOutcomes", q.strictOutcomes(), strict.size());
-        due("surprise", q.surprise(), surprise(model));
-        due("fencesNeeded", q.fencesNeeded(), model.fencesNeeded());
-        checkMembers(q, late, strict);
+        due("size", subject.ask().size(), model.size());
+        due("outcomes", subject.ask().outcomes(), late.size());
+        due("strictOutcomes", subject.ask().strictOutcomes(), strict.size());
+        due("surprise", subject.ask().surprise(), surprise(model));
+        due("fencesNeeded", subject.ask().fencesNeeded(), model.fencesNeeded());
+        checkMembers(subject, late, strict);
         for (int k = -1; k <= 6; k++) {
             boolean there = k >= 0 && k < model.loads();
-            due("finds", q.finds(k), there ? values(late, 2 * k) : -4);
+            due("finds", subject.ask().finds(k), there ? values(late, 2 * k) : -4);
         }
         for (int x = -1; x <= 3; x++) {
-            due("ends", q.ends(x), x >= 0 && x < 3 ? values(late, 12 + 2 * x) : -1);
+            due("ends", subject.ask().ends(x), x >= 0 && x < 3 ? values(late, 12 + 2 * x) : -1);
         }
-        checkImplies(q, late, model.loads());
-    }
-
-    private static void checkMembers(StoreQueues q, TreeSet<Integer> late, TreeSet<Integer> strict) {
-        int k = 0;
-        due("outcome(-1)", q.outcome(-1), -4);
-        for (int outcome : late) {
-            due("outcome", q.outcome(k), outcome);
-            k++;
-            for (int near = outcome - 1; near <= outcome + 1; near++) {
-                due("possible", q.possible(near) ? 1 : 0, late.contains(near) ? 1 : 0);
-                due("strictlyPossible", q.strictlyPossible(near) ? 1 : 0, strict.contains(near) ? 1 : 0);
+        for (int k = -1; k <= model.loads(); k++) {
+            for (int j = -1; j <= model.loads(); j++) {
+                checkImplies(subject, late, k, j);
             }
         }
-        due("outcome behind the last", q.outcome(k), -4);
+    }
+
+    private static void checkMembers(Subject subject, TreeSet<Integer> late, TreeSet<Integer> strict) {
+        int k = 0;
+        due("outcome(-1)", subject.ask().outcome(-1), -4);
+        for (int outcome : late) {
+            due("outcome", subject.ask().outcome(k), outcome);
+            k++;
+            for (int near = outcome - 1; near <= outcome + 1; near++) {
+                checkOutcome(subject, near, late, strict);
+            }
+        }
+        due("outcome behind the last", subject.ask().outcome(k), -4);
+    }
+
+    private static void checkOutcome(Subject subject, int outcome, Set<Integer> late, Set<Integer> strict) {
+        due("possible", subject.ask().possible(outcome) ? 1 : 0, late.contains(outcome) ? 1 : 0);
+        due("strictlyPossible", subject.ask().strictlyPossible(outcome) ? 1 : 0, strict.contains(outcome) ? 1 : 0);
     }
 
     private static int values(Set<Integer> outcomes, int place) {
@@ -370,19 +444,23 @@ public final class ModelTest {
         return values;
     }
 
-    private static void checkImplies(StoreQueues q, Set<Integer> late, int loads) {
-        for (int k = -1; k <= loads; k++) {
-            for (int j = -1; j <= loads; j++) {
-                for (int v = -1; v <= 4; v++) {
-                    for (int w = -1; w <= 4; w++) {
-                        boolean want = k >= 0 && k < loads && j >= 0 && j < loads;
-                        for (int outcome : late) {
-                            want &= !want || (outcome >> 2 * k & 3) != v || (outcome >> 2 * j & 3) == w;
-                        }
-                        due("implies", q.implies(k, v, j, w) ? 1 : 0, want ? 1 : 0);
-                    }
-                }
+    private static void checkImplies(Subject subject, Set<Integer> late, int k, int j) {
+        int loads = subject.model.loads();
+        boolean there = k >= 0 && k < loads && j >= 0 && j < loads;
+        for (int v = -1; v <= 4; v++) {
+            for (int w = -1; w <= 4; w++) {
+                boolean want = there && holds(late, k, v, j, w);
+                due("implies", subject.ask().implies(k, v, j, w) ? 1 : 0, want ? 1 : 0);
             }
         }
+    }
+
+    private static boolean holds(Set<Integer> late, int k, int v, int j, int w) {
+        for (int outcome : late) {
+            if ((outcome >> 2 * k & 3) == v && (outcome >> 2 * j & 3) != w) {
+                return false;
+            }
+        }
+        return true;
     }
 }

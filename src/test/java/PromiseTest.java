@@ -338,6 +338,19 @@ public final class PromiseTest {
         due("strictlyPossible", q.strictlyPossible(code(1, 1, 0, 1, 0)), true);
         due("strictlyPossible", q.strictlyPossible(code(1, 1, 0, 1, 1)), true);
         due("strictlyPossible: never", q.strictlyPossible(code(1, 1, 0, 2, 0)), false);
+
+        StoreQueues again = new StoreQueues();
+        again.store(0, 2, 1);
+        for (int i = 0; i < 3; i++) {
+            again.load(1, 2);
+        }
+        due("strictlyPossible: first program", again.strictlyPossible(code(0, 0, 1, 1, 1, 1)), true);
+        again.clear();
+        again.store(0, 0, 1);
+        again.load(0, 1);
+        again.store(1, 1, 1);
+        again.load(1, 0);
+        due("strictlyPossible: of the first program only", again.strictlyPossible(code(0, 0, 1, 1, 1, 1)), false);
     }
 
     private static void surprise() {
@@ -353,6 +366,19 @@ public final class PromiseTest {
         own.load(1, 1);
         own.load(1, 0);
         due("surprise: own stores", own.surprise(), code(1, 2, 0, 1, 0, 2, 0));
+
+        // If thread 1 is the last to store to variable 1, a strict run has its load find 1.
+        StoreQueues greatest = new StoreQueues();
+        greatest.store(0, 0, 2);
+        greatest.store(0, 0, 1);
+        greatest.store(0, 1, 1);
+        greatest.store(1, 0, 1);
+        greatest.store(1, 1, 3);
+        greatest.load(1, 0);
+        due("surprise: outcomes", greatest.outcomes(), 4);
+        due("surprise: strictOutcomes", greatest.strictOutcomes(), 3);
+        due("surprise: the greatest outcome", greatest.surprise(), code(1, 3, 0, 2));
+        due("surprise: one fence before the load", greatest.fencesNeeded(), 1);
 
         // A load may not come after a later store of its thread.
         StoreQueues loadsFirst = new StoreQueues();
