@@ -98,12 +98,12 @@ public final class ModelTest {
             }
         }
 
-        /** Tries every set of places between instructions; a fence before or behind all of them forbids nothing. */
+        /** Tries every set of places, also before and behind all instructions of a thread: "any places". */
         int fencesNeeded() {
             Set<Integer> allowed = outcomes(true);
             List<int[]> places = new ArrayList<>();
             for (int t = 0; t < 4; t++) {
-                for (int i = 1; i < threads.get(t).size(); i++) {
+                for (int i = 0; i <= threads.get(t).size(); i++) {
                     places.add(new int[] {t, i});
                 }
             }
